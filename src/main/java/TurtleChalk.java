@@ -1084,19 +1084,20 @@ public final class TurtleChalk {
         void place(Work work) {
             int wide = work.program.drawing.cellsWide();
             int high = work.program.drawing.cellsHigh();
+            long mask = (1L << wide) - 1L;
             for (int y = 0; y <= height - high; y++) {
-                int x = firstFree(takenFrom(y, high), wide);
+                int x = firstFree(takenFrom(y, high), mask, width - wide);
                 if (x != NONE) {
-                    take(y, high, maskOf(wide) << x);
+                    take(y, high, mask << x);
                     work.hangAt(x, y);
                     return;
                 }
             }
         }
 
-        private int firstFree(long cells, int wide) {
-            for (int x = 0; x <= width - wide; x++) {
-                if ((cells >> x & maskOf(wide)) == 0L) {
+        private static int firstFree(long cells, long mask, int greatestX) {
+            for (int x = 0; x <= greatestX; x++) {
+                if ((cells >> x & mask) == 0L) {
                     return x;
                 }
             }
@@ -1115,10 +1116,6 @@ public final class TurtleChalk {
             for (int i = y; i < y + high && i >= 0 && i < taken.length; i++) {
                 taken[i] |= cells;
             }
-        }
-
-        private static long maskOf(int wide) {
-            return (1L << wide) - 1L;
         }
     }
 }

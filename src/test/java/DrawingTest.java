@@ -103,6 +103,7 @@ public final class DrawingTest {
 
     private static void unlike() {
         alike("f2", "f3", false);
+        alike("f1", "t1 f1", false);
         alike("f2", "t1 f2", false);
         alike("f1", "t1", false);
         alike("f1 t1 f1", "t1 f1 t3 f1", false);

@@ -47,6 +47,8 @@ public final class FormTest {
         form("t1", "t5", false);
         form("f1 t1", "t1 f1", false);
         form("fn0 fn0", "fn0 fn1", false);
+        form("fn0 s0=n0", "fn0 s1=0", false);
+        form("fn0 a0=n1", "fn0 a1=1", false);
         form("s0=1 s1=2 fn0", "s0=1 s1=2 fn1", false);
         form("s0=n1 fn0", "s1=n0 fn0", false);
         form("w0 e c0", "w0 e c1", false);

@@ -167,7 +167,7 @@ final class Model {
         return number < 0 || number >= bound;
     }
 
-    private int open() {
+    int open() {
         int open = 0;
         for (Order order : draft) {
             open += order.sign == 'r' || order.sign == 'w' ? 1 : order.sign == 'e' ? -1 : 0;
@@ -385,6 +385,10 @@ final class Model {
     }
 
     // ---- exercises and works
+
+    long tasks() {
+        return exercises.size();
+    }
 
     private static boolean isAllowance(int orders, int steps) {
         return orders >= 1 && orders <= 30 && steps >= 0 && steps <= 600;

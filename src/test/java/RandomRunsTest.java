@@ -32,9 +32,16 @@ public final class RandomRunsTest {
     }
 
     private void all() {
+        if (number % 2 == 0) {
+            fillWall();
+        } else if (number % 4 == 1) {
+            copyWorks();
+        } else {
+            longRuns();
+        }
         while (calls < MOST_CALLS && !isWrong) {
             int kind = random.nextInt(100);
-            if (kind < 18) {
+            if (kind < 18 && (model.written() < 30 || kind == 0)) {
                 writeProgram();
             } else if (kind < 24) {
                 draftWrongly();
@@ -117,6 +124,31 @@ public final class RandomRunsTest {
         return new Model.Order(sign, random.nextInt(4), value, isName);
     }
 
+    /** An order out of which long, deep and far runs are made. */
+    private Model.Order busyOrder() {
+        int target = random.nextInt(2);
+        int big = 20 + random.nextInt(80);
+        return switch (random.nextInt(10)) {
+            case 0, 1 -> new Model.Order('r', 0, big, false);
+            case 2, 3 -> new Model.Order('w', target, 0, false);
+            case 4 -> new Model.Order('c', target, 0, false);
+            case 5 -> new Model.Order('a', target, target, true);
+            case 6 -> new Model.Order(coin() ? 'a' : 's', target, coin() ? big : -big, false);
+            case 7 -> new Model.Order('f', 0, coin() ? target : random.nextInt(4), coin());
+            case 8 -> new Model.Order('t', 0, 1, false);
+            default -> new Model.Order('e', 0, 0, false);
+        };
+    }
+
+    private void closeAll() {
+        for (int i = 0; i < 15 && model.open() > 0 && model.drafted() < 30; i++) {
+            give(new Model.Order('e', 0, 0, false));
+        }
+        if (random.nextInt(8) == 0) {
+            give(new Model.Order('e', 0, 0, false));
+        }
+    }
+
     private void draftWrongly() {
         Model.Order order = anyOrder();
         int bound = order.isName() ? 4 : 100;
@@ -144,13 +176,9 @@ public final class RandomRunsTest {
         } else {
             int most = random.nextInt(5) == 0 ? 34 : 2 + random.nextInt(10);
             for (int i = 0; i < most; i++) {
-                give(anyOrder());
+                give(kind == 9 ? busyOrder() : anyOrder());
             }
-            for (int i = 0; i < 12; i++) {
-                if (model.drafted() < 30) {
-                    give(new Model.Order('e', 0, 0, false));
-                }
-            }
+            closeAll();
         }
         int pupil = random.nextInt(6);
         same("write " + pupil, () -> chalk.write(pupil), () -> model.write(pupil));
@@ -171,6 +199,87 @@ public final class RandomRunsTest {
         give(new Model.Order('f', 0, 1 + random.nextInt(2), false));
         give(new Model.Order('t', 0, coin() ? 1 : 3, false));
         give(new Model.Order('e', 0, 0, false));
+    }
+
+    /** Exercises for drawings of several sizes, and works for them in a mixed order. */
+    private void fillWall() {
+        int wide = 3 + random.nextInt(16);
+        int high = 3 + random.nextInt(16);
+        same("setWall " + wide + ", " + high, () -> chalk.setWall(wide, high), () -> model.setWall(wide, high));
+        for (int i = 0; i < 6; i++) {
+            int program = i;
+            give(new Model.Order('f', 0, random.nextInt(7), false));
+            give(new Model.Order('t', 0, 1 + 2 * random.nextInt(2), false));
+            give(new Model.Order('f', 0, random.nextInt(7), false));
+            same("write " + i % 2, () -> chalk.write(program % 2), () -> model.write(program % 2));
+            same("exercise " + i, () -> chalk.exercise(program, 30, 600), () -> model.exercise(program, 30, 600));
+        }
+        for (int i = 0; i < 20; i++) {
+            int one = random.nextInt(6);
+            int work = i;
+            same("handIn " + one, () -> chalk.handIn(one, one), () -> model.handIn(one, one));
+            same("hangs " + work, () -> chalk.hangs(work), () -> model.hangs(work));
+        }
+    }
+
+    /** Programs in two forms by several pupils, handed in for two exercises, and doubts cleared. */
+    private void copyWorks() {
+        for (int i = 0; i < 8; i++) {
+            int program = i;
+            int pupil = random.nextInt(4);
+            if (i < 2) {
+                figure();
+            } else {
+                for (Model.Order order : renamed(model.ordersOf(random.nextInt(i)))) {
+                    give(order);
+                }
+            }
+            same("write " + pupil, () -> chalk.write(pupil), () -> model.write(pupil));
+            if (i < 2) {
+                same("exercise " + i, () -> chalk.exercise(program, 30, 600), () -> model.exercise(program, 30, 600));
+            }
+        }
+        for (int i = 0; i < 20; i++) {
+            int program = random.nextInt(8);
+            int exercise = random.nextInt(2);
+            int last = i;
+            int any = random.nextInt(i + 1);
+            boolean isCleared = random.nextInt(3) > 0;
+            same("handIn " + program + ", " + exercise,
+                    () -> chalk.handIn(program, exercise), () -> model.handIn(program, exercise));
+            same("copyOf " + last, () -> chalk.copyOf(last), () -> model.copyOf(last));
+            same("clear " + any + ", " + isCleared,
+                    () -> chalk.clear(any, isCleared) ? 1 : 0, () -> model.clear(any, isCleared));
+            same("hangs " + any, () -> chalk.hangs(any), () -> model.hangs(any));
+            same("hangs " + last, () -> chalk.hangs(last), () -> model.hangs(last));
+        }
+    }
+
+    /** Programs whose runs often break off, each looked at after it is written. */
+    private void longRuns() {
+        for (int i = 0; i < 20; i++) {
+            int program = i;
+            int most = 4 + random.nextInt(14);
+            for (int j = 0; j < most; j++) {
+                give(random.nextInt(3) == 0 ? anyOrder() : busyOrder());
+            }
+            closeAll();
+            if (random.nextInt(3) == 0) {
+                give(new Model.Order('w', 0, 0, false));
+                give(new Model.Order('e', 0, 0, false));
+            }
+            give(new Model.Order('c', random.nextInt(2), 0, false));
+            give(new Model.Order('f', 0, 10, false));
+            same("write 0", () -> chalk.write(0), () -> model.write(0));
+            same("fault " + i, () -> chalk.fault(program), () -> model.fault(program));
+            same("steps " + i, () -> chalk.steps(program), () -> model.steps(program));
+            same("strokes " + i, () -> chalk.strokes(program), () -> model.strokes(program));
+            for (int j = 0; j < 3; j++) {
+                int steps = 1 + random.nextInt(j == 0 ? 600 : 30);
+                same("strokesBySteps " + i + ", " + steps,
+                        () -> chalk.strokesBySteps(program, steps), () -> model.strokesBySteps(program, steps));
+            }
+        }
     }
 
     /** The same form, unless one number is changed. */
@@ -221,7 +330,7 @@ public final class RandomRunsTest {
 
     private void changeWorks() {
         int program = near((int) model.written());
-        int exercise = near(coin() ? 2 : 6);
+        int exercise = near(coin() ? 2 : (int) model.tasks());
         int orders = coin() ? 30 : near(31);
         int steps = coin() ? 600 : near(coin() ? 601 : 40);
         int work = near((int) model.handedIn());

@@ -19,6 +19,7 @@ public final class RunTest {
         unknownWords();
         severalFaults();
         strokesBySteps();
+        runAfterRun();
         wrongNumbers();
         Check.finish();
     }
@@ -177,6 +178,24 @@ public final class RunTest {
         Check.noArgument("by 601", () -> x.strokesBySteps(0, 601));
         Check.noArgument("by -1", () -> x.strokesBySteps(0, -1));
         Check.noIndex("the program goes first", () -> x.strokesBySteps(3, 601));
+    }
+
+    /** What a run that broke off leaves behind is nothing to the next one. */
+    private static void runAfterRun() {
+        TurtleChalk x = new TurtleChalk();
+        String[] broken = {"r99 f9 e", "s0=9 s1=9 s2=9 s3=9 c3", "w0 t1 pu c0 e c0", "r99 r99 t1 e e", "t3 f9"};
+        for (int i = 0; i < broken.length; i++) {
+            int one = Script.write(x, 0, broken[i]);
+            int next = Script.write(x, 0, "r0 f1 e fn0 fn3 f2");
+            Check.due("after " + broken[i] + ": steps", x.steps(next), 6);
+            Check.due("after " + broken[i] + ": strokes", x.strokes(next), 2);
+            Check.due("after " + broken[i] + ": up", x.isDrawn(next, 8, 9, true), true);
+            x.strokesBySteps(one, 4);
+            Check.due("after it, by 5", x.strokesBySteps(next, 5), 1);
+            int deep = Script.write(x, 0, "w0 c0 e c0");
+            Check.due("after " + broken[i] + ": deep", x.steps(deep), 9);
+            Check.due("after " + broken[i] + ": DEEP", x.fault(deep), DEEP);
+        }
     }
 
     private static void wrongNumbers() {

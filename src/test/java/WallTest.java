@@ -5,6 +5,8 @@ public final class WallTest {
     public static void main(String[] args) {
         rows();
         gaps();
+        under();
+        oneStroke();
         oneCell();
         sizes();
         laidAnew();
@@ -48,6 +50,32 @@ public final class WallTest {
         Check.due("1 wide, 2 high", x.hangs(hang(x, 0, "t2 f1")), 500);
         Check.due("2 wide, 1 high", x.hangs(hang(x, 0, "t1 f1")), 5);
         Check.due("6 wide, 1 high", x.hangs(hang(x, 0, "t3 f5")), NONE);
+    }
+
+    /** A place that is just as high as the work, with another work above it. */
+    private static void under() {
+        TurtleChalk x = new TurtleChalk();
+        x.setWall(6, 6);
+        Check.due("4 wide, 3 high", x.hangs(hang(x, 0, "f2 t1 f3")), 0);
+        Check.due("6 wide, 1 high", x.hangs(hang(x, 0, "t3 f5")), 3);
+        Check.due("2 wide, 4 high, too high for the gap", x.hangs(hang(x, 0, "f3 t1 f1")), NONE);
+        Check.due("3 wide, 1 high, too wide for the gap", x.hangs(hang(x, 0, "t1 f2")), 4);
+        Check.due("1 wide, 3 high, in the gap", x.hangs(hang(x, 0, "f2")), 400);
+        Check.due("1 wide, 3 high, beside it", x.hangs(x.handIn(4, 4)), 500);
+        Check.due("below the other one", x.onWall(5, 2), 5);
+        Check.due("the other one", x.onWall(5, 3), 1);
+    }
+
+    private static void oneStroke() {
+        TurtleChalk x = new TurtleChalk();
+        x.setWall(4, 2);
+        hang(x, 0, "f1");
+        hang(x, 0, "t3 f1");
+        Check.due("one stroke up: its upper cell", x.onWall(0, 1), 0);
+        Check.due("one stroke up: beside", x.onWall(1, 0), 1);
+        Check.due("one stroke to the side: its far cell", x.onWall(2, 0), 1);
+        Check.due("one stroke to the side: above", x.onWall(1, 1), NONE);
+        Check.due("one stroke to the side: beside", x.onWall(3, 0), NONE);
     }
 
     private static void oneCell() {
