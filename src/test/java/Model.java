@@ -5,8 +5,9 @@ import java.util.Map;
 import java.util.TreeSet;
 
 /**
- * The document told a second time, as plainly as can be and with nothing kept that can be found anew:
- * a refused call answers the number of its exception. It shares nothing with the program.
+ * The document told a second time, as plainly as can be: the wall is laid for each question, and only what
+ * programs are is kept, since they never change. A refused call answers the number of its exception. It shares
+ * nothing with the program.
  */
 final class Model {
     static final long NO_INDEX = 1000001L;
@@ -155,6 +156,8 @@ final class Model {
     private final List<Order> draft = new ArrayList<>();
     private final List<Written> programs = new ArrayList<>();
     private final Map<Integer, Outcome> outcomes = new HashMap<>();
+    private final Map<Integer, Boolean> likes = new HashMap<>();
+    private final Map<Integer, List<String>> forms = new HashMap<>();
     private final List<int[]> exercises = new ArrayList<>();
     private final List<int[]> works = new ArrayList<>();
     private final List<Boolean> cleared = new ArrayList<>();
@@ -302,10 +305,14 @@ final class Model {
     }
 
     private boolean alike(int one, int other) {
+        return likes.computeIfAbsent(100 * one + other, pair -> compare(one, other));
+    }
+
+    private boolean compare(int one, int other) {
         TreeSet<String> first = outcome(one).strokes;
         TreeSet<String> second = outcome(other).strokes;
-        if (first.isEmpty() || second.isEmpty()) {
-            return first.isEmpty() && second.isEmpty();
+        if (first.size() != second.size() || first.isEmpty()) {
+            return first.size() == second.size();
         }
         for (int x = -15; x <= 15; x++) {
             for (int y = -15; y <= 15; y++) {
@@ -327,6 +334,10 @@ final class Model {
     }
 
     private List<String> form(int program) {
+        return forms.computeIfAbsent(program, this::formAnew);
+    }
+
+    private List<String> formAnew(int program) {
         List<Integer> names = new ArrayList<>();
         List<Integer> words = new ArrayList<>();
         List<String> form = new ArrayList<>();
