@@ -31,6 +31,9 @@ public final class FormTest {
         form("w3 e w2 e c3", "w0 e w1 e c0", true);
         form("c1 s1=1", "c2 s0=1", true);
         form("s0=n0", "s3=n3", true);
+        form("fn0 fn1 fn2 fn3 fn2", "fn3 fn1 fn0 fn2 fn0", true);
+        form("c0 c1 c2 c3 c2", "c3 c1 c0 c2 c0", true);
+        form("w0 e c1 pd t0 r0 e fn1 fn0", "w1 e c0 pd t0 r0 e fn0 fn1", true);
     }
 
     private static void otherForm() {
@@ -47,6 +50,9 @@ public final class FormTest {
         form("t1", "t5", false);
         form("f1 t1", "t1 f1", false);
         form("fn0 fn0", "fn0 fn1", false);
+        form("fn0 fn1 fn2 fn1", "fn0 fn1 fn2 fn2", false);
+        form("fn0 fn1 fn2 fn3 fn0", "fn0 fn1 fn2 fn3 fn3", false);
+        form("c0 c1 c2 c1", "c0 c1 c2 c2", false);
         form("fn0 s0=n0", "fn0 s1=0", false);
         form("fn0 a0=n1", "fn0 a1=1", false);
         form("s0=1 s1=2 fn0", "s0=1 s1=2 fn1", false);
