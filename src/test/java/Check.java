@@ -1,16 +1,50 @@
-/** Counts the answers of one test program that are not as due. */
+/** Counts the answers of one test program that are not as due, each under the sentence of the document that asks it. */
 final class Check {
     private static int asked = 0;
     private static int wrong = 0;
+    private static int sentences = 0;
+    private static int askedBefore = 0;
+    private static String sentence = "";
 
     private Check() {
+    }
+
+    /** What is asked from here on holds these words of the section of a promise. */
+    static void sentence(int promise, String words) {
+        open("Promise " + promise + ", \"" + words + "\": ");
+    }
+
+    /** What is asked from here on holds these words of the section Terms, by the calls of a promise. */
+    static void terms(int promise, String words) {
+        open("Promise " + promise + " by Terms, \"" + words + "\": ");
+    }
+
+    /** What is asked from here on holds these words of the section What it is, by the calls of a promise. */
+    static void whatItIs(int promise, String words) {
+        open("Promise " + promise + " by What it is, \"" + words + "\": ");
+    }
+
+    private static void open(String next) {
+        closeSentence();
+        sentence = next;
+        sentences++;
+        askedBefore = asked;
+    }
+
+    /** A sentence under which nothing was asked has no test. */
+    private static void closeSentence() {
+        if (!sentence.isEmpty() && asked == askedBefore) {
+            wrong++;
+            System.out.println(sentence + "nothing was asked");
+        }
+        sentence = "";
     }
 
     static void due(String what, long got, long want) {
         asked++;
         if (got != want) {
             wrong++;
-            System.out.println(what + " answered " + got + ", due is " + want);
+            System.out.println(sentence + what + " answered " + got + ", due is " + want);
         }
     }
 
@@ -33,7 +67,7 @@ final class Check {
         }
         if (!got.equals(want.getName())) {
             wrong++;
-            System.out.println(what + " threw " + got + ", due is " + want.getName());
+            System.out.println(sentence + what + " threw " + got + ", due is " + want.getName());
         }
     }
 
@@ -51,7 +85,8 @@ final class Check {
 
     /** Ends the test program; one that asked nothing has failed too. */
     static void finish() {
-        System.out.println(asked + " answers, " + wrong + " not as due");
+        closeSentence();
+        System.out.println(sentences + " sentences, " + asked + " answers, " + wrong + " not as due");
         System.exit(wrong == 0 && asked > 0 ? 0 : 1);
     }
 }

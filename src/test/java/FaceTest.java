@@ -22,15 +22,17 @@ public final class FaceTest {
         "int hung(int)"};
 
     public static void main(String[] args) {
-        constants();
         methods();
         fields();
         classes();
+        constants();
         Check.finish();
     }
 
     private static void constants() {
+        Check.terms(31, "`NONE = -1`: There is none.");
         Check.due("NONE", TurtleChalk.NONE, -1);
+        Check.terms(20, "`FINE = 0, LONG = 1, OFF = 2, RANGE = 3, DEEP = 4, UNKNOWN = 5`: Faults of runs.");
         Check.due("FINE", TurtleChalk.FINE, 0);
         Check.due("LONG", TurtleChalk.LONG, 1);
         Check.due("OFF", TurtleChalk.OFF, 2);
