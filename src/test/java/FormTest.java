@@ -36,6 +36,8 @@ public final class FormTest {
         form("fn0 tn1 rn2 e", "fn3 tn2 rn0 e", true);
         form("fn0 fn1 fn2 fn3 fn2", "fn3 fn1 fn0 fn2 fn0", true);
         form("fn0 fn0", "fn0 fn1", false);
+        form("fn0 fn1 fn1", "fn0 fn1 fn2", false);
+        form("fn0 fn1 fn2 fn2", "fn0 fn1 fn2 fn3", false);
         form("fn0 fn1 fn2 fn1", "fn0 fn1 fn2 fn2", false);
         form("fn0 fn1 fn2 fn3 fn0", "fn0 fn1 fn2 fn3 fn3", false);
         form("s0=1 s1=2 fn0", "s0=1 s1=2 fn1", false);
@@ -65,6 +67,7 @@ public final class FormTest {
         form("w3 e w2 e c3", "w0 e w1 e c0", true);
         form("c0 c1 c2 c3 c2", "c3 c1 c0 c2 c0", true);
         form("c0 c1 c2 c1", "c0 c1 c2 c2", false);
+        form("c0 c1 c1", "c0 c1 c2", false);
         form("w0 e c0", "w0 e c1", false);
         form("c0 c1 c0", "c0 c1 c1", false);
         form("w0 e w1 e c0", "w0 e w1 e c1", false);

@@ -288,6 +288,10 @@ public final class RunTest {
         run("w1 r99 t1 e e r9 c1 e", LONG, 600, 0);
         run("r99 r99 r99 e e e", LONG, 600, 0);
         run(GREATEST + " rn0 t1 e", LONG, 600, 0);
+        // Repeats of nothing count once each, however many times they are done.
+        run(GREATEST + " r5 r97 rn0 e e e t0", FINE, 503, 0);
+        run(GREATEST + " r6 r97 rn0 e e e", FINE, 600, 0);
+        run(GREATEST + " r6 r97 rn0 e e e t0", LONG, 600, 0);
     }
 
     // ---- faults
@@ -494,6 +498,7 @@ public final class RunTest {
         Check.sentence(23, "`steps`: 0 to 600: how many, or all, if there are fewer");
         by("w0 f1 e", 0, 0);
         by("f1", 0, 0, 1, 1, 1);
+        by("pu t2 f8 pd t3 f2 t3 f1", 0, 0, 0, 0, 0, 0, 0, 0, 0, 0, 0, 0, 0, 0, 0, 1, 2, 2, 2, 3, 3);
         by("w0 f1 e c0", 0, 0, 0, 1, 1);
         TurtleChalk x = new TurtleChalk();
         Script.write(x, 0, "f9");

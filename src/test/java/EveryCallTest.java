@@ -4,16 +4,20 @@ import java.util.function.Consumer;
 import java.util.function.LongSupplier;
 
 /**
- * What Terms say of every call, promise by promise: which exception goes first, that a refused call and a
- * question change nothing, and that an object is good for 512 calls.
+ * What holds for every call, promise by promise: the first and the last number that it takes, which exception
+ * goes first, that a refused call and a question change nothing, and that an object is good for 512 calls.
  */
-public final class RefusalTest {
+public final class EveryCallTest {
     private static final String FIRST = "If several apply, the one that the throws clause names first is thrown.";
     private static final String NOTHING = "A call that throws an exception changes nothing.";
     private static final int FAR = Integer.MAX_VALUE;
     private static final int LOW = Integer.MIN_VALUE;
 
     public static void main(String[] args) {
+        firstAndLastProgram();
+        firstAndLastOfTwoPrograms();
+        firstAndLastExercise();
+        firstAndLastWork();
         firstOfOrders();
         firstOfWords();
         firstOfWrite();
@@ -172,6 +176,91 @@ public final class RefusalTest {
         }
     }
 
+    // ---- the first and the last number
+
+    /** The first of 30 programs is "f0 t1", the last two are "f2 t1". */
+    private static void firstAndLastProgram() {
+        TurtleChalk x = full();
+        Check.sentence(20, "`program`: its number");
+        Check.due("the first", x.fault(0), TurtleChalk.FINE);
+        Check.due("the last", x.fault(29), TurtleChalk.FINE);
+        Check.sentence(21, "`program`: its number");
+        Check.due("the first", x.steps(0), 2);
+        Check.due("the last", x.steps(29), 4);
+        Check.sentence(22, "`program`: its number");
+        Check.due("the first", x.strokes(0), 0);
+        Check.due("the last", x.strokes(29), 2);
+        Check.sentence(23, "`program`: its number");
+        Check.due("the first", x.strokesBySteps(0, 2), 0);
+        Check.due("the last", x.strokesBySteps(29, 2), 1);
+        Check.sentence(24, "`program`: its number");
+        Check.due("the first", x.isDrawn(0, 8, 9, true), false);
+        Check.due("the last", x.isDrawn(29, 8, 9, true), true);
+    }
+
+    private static void firstAndLastOfTwoPrograms() {
+        TurtleChalk x = full();
+        Check.sentence(25, "`one`: the number of a program");
+        Check.due("the first and the last", x.areAlike(0, 29), false);
+        Check.due("the last and the last but one", x.areAlike(29, 28), true);
+        Check.sentence(25, "`other`: the number of a program");
+        Check.due("the last and the first", x.areAlike(29, 0), false);
+        Check.due("the last but one and the last", x.areAlike(28, 29), true);
+        Check.sentence(26, "`one`: the number of a program");
+        Check.due("the first and the last", x.haveOneForm(0, 29), false);
+        Check.due("the last and the last but one", x.haveOneForm(29, 28), true);
+        Check.sentence(26, "`other`: the number of a program");
+        Check.due("the last and the first", x.haveOneForm(29, 0), false);
+        Check.due("the last but one and the last", x.haveOneForm(28, 29), true);
+        Check.sentence(27, "`one`: the number of a program");
+        Check.due("the first and the last", x.likeness(0, 29), 50);
+        Check.due("the last and the last but one", x.likeness(29, 28), 100);
+        Check.sentence(27, "`other`: the number of a program");
+        Check.due("the last and the first", x.likeness(29, 0), 50);
+        Check.due("the last but one and the last", x.likeness(28, 29), 100);
+    }
+
+    private static void firstAndLastExercise() {
+        TurtleChalk x = full();
+        Check.sentence(14, "`exercise`: its number");
+        Check.due("the first", x.allow(0, 30, 600), 1);
+        Check.due("the last", x.allow(5, 30, 600), 1);
+        TurtleChalk other = new TurtleChalk();
+        for (int i = 0; i < 30; i++) {
+            Script.write(other, 0, "f" + i % 7);
+        }
+        Check.sentence(13, "`program`: the number of the program whose drawing is wanted");
+        for (int i = 0; i < 6; i++) {
+            Check.due("of the last", other.exercise(29 - i, 30, 600), i);
+        }
+        Check.sentence(15, "`program`: its number");
+        Check.due("the first", other.handIn(0, 0), 0);
+        Check.due("the last", other.handIn(29, 0), 1);
+        Check.due("the first, for another drawing", other.meets(0), false);
+        Check.due("the last, for its own drawing", other.meets(1), true);
+        Check.sentence(15, "`exercise`: the number of the exercise");
+        Check.due("the last, of program 24", other.handIn(24, 5), 2);
+        Check.due("for its own drawing", other.meets(2), true);
+    }
+
+    private static void firstAndLastWork() {
+        TurtleChalk x = full();
+        Check.sentence(29, "`work`: its number");
+        Check.due("the first", x.meets(0), true);
+        Check.due("the last", x.meets(23), false);
+        Check.sentence(30, "`work`: its number");
+        Check.due("the first", x.copyOf(0), TurtleChalk.NONE);
+        Check.due("the last", x.copyOf(23), TurtleChalk.NONE);
+        Check.sentence(31, "`work`: its number");
+        Check.due("the first", x.hangs(0), 0);
+        Check.due("the last", x.hangs(23), TurtleChalk.NONE);
+        Check.sentence(16, "`work`: its number");
+        Check.due("the first", x.clear(0, true), false);
+        Check.due("the last", x.clear(23, true), false);
+        Check.due("the first, once more", x.clear(0, false), true);
+        Check.due("the last, once more", x.clear(23, false), true);
+    }
+
     // ---- which exception goes first
 
     private static void firstOfOrders() {
@@ -258,74 +347,74 @@ public final class RefusalTest {
 
     private static void draftAfterRefusals() {
         Check.terms(2, NOTHING);
-        unchanged("forward", RefusalTest::inUse, x -> {
+        unchanged("forward", EveryCallTest::inUse, x -> {
             Check.noIndex("name 4", () -> x.forward(4, true));
             Check.noArgument("100", () -> x.forward(100, false));
         });
         Check.terms(3, NOTHING);
-        unchanged("turn", RefusalTest::inUse, x -> {
+        unchanged("turn", EveryCallTest::inUse, x -> {
             Check.noIndex("name -1", () -> x.turn(-1, true));
             Check.noArgument("-1", () -> x.turn(-1, false));
         });
         Check.terms(5, NOTHING);
-        unchanged("set", RefusalTest::inUse, x -> {
+        unchanged("set", EveryCallTest::inUse, x -> {
             Check.noIndex("name 4", () -> x.set(4, 1, false));
             Check.noIndex("value of name 4", () -> x.set(0, 4, true));
             Check.noArgument("100", () -> x.set(2, 100, false));
         });
         Check.terms(6, NOTHING);
-        unchanged("add", RefusalTest::inUse, x -> {
+        unchanged("add", EveryCallTest::inUse, x -> {
             Check.noIndex("name -1", () -> x.add(-1, 1, false));
             Check.noIndex("value of name -1", () -> x.add(0, -1, true));
             Check.noArgument("-100", () -> x.add(2, -100, false));
         });
         Check.terms(7, NOTHING);
-        unchanged("repeat", RefusalTest::inUse, x -> {
+        unchanged("repeat", EveryCallTest::inUse, x -> {
             Check.noIndex("name 4", () -> x.repeat(4, true));
             Check.noArgument("100", () -> x.repeat(100, false));
         });
         Check.terms(8, NOTHING);
-        unchanged("word", RefusalTest::inUse, x -> {
+        unchanged("word", EveryCallTest::inUse, x -> {
             Check.noIndex("4", () -> x.word(4));
             Check.noState("a block is open", () -> x.word(0));
             Check.noState("it has a block", () -> x.word(1));
         });
         Check.terms(9, NOTHING);
-        unchanged("call", RefusalTest::inUse, x -> Check.noIndex("4", () -> x.call(4)));
+        unchanged("call", EveryCallTest::inUse, x -> Check.noIndex("4", () -> x.call(4)));
         Check.terms(10, NOTHING);
-        unchanged("end of none", RefusalTest::fullButDraft, x -> Check.noState("none is open", x::end));
+        unchanged("end of none", EveryCallTest::fullButDraft, x -> Check.noState("none is open", x::end));
         unchanged("end of none in an empty draft", TurtleChalk::new, x -> Check.noState("none is open", x::end));
     }
 
     private static void fullDraftAfterRefusals() {
         Check.terms(2, NOTHING);
-        unchanged("forward as the 31st", RefusalTest::full, x -> Check.noState("full", () -> x.forward(1, false)));
+        unchanged("forward as the 31st", EveryCallTest::full, x -> Check.noState("full", () -> x.forward(1, false)));
         Check.terms(3, NOTHING);
-        unchanged("turn as the 31st", RefusalTest::full, x -> Check.noState("full", () -> x.turn(1, false)));
+        unchanged("turn as the 31st", EveryCallTest::full, x -> Check.noState("full", () -> x.turn(1, false)));
         Check.terms(4, NOTHING);
-        unchanged("pen as the 31st", RefusalTest::full, x -> Check.noState("full", () -> x.pen(true)));
+        unchanged("pen as the 31st", EveryCallTest::full, x -> Check.noState("full", () -> x.pen(true)));
         Check.terms(5, NOTHING);
-        unchanged("set as the 31st", RefusalTest::full, x -> Check.noState("full", () -> x.set(0, 1, false)));
+        unchanged("set as the 31st", EveryCallTest::full, x -> Check.noState("full", () -> x.set(0, 1, false)));
         Check.terms(6, NOTHING);
-        unchanged("add as the 31st", RefusalTest::full, x -> Check.noState("full", () -> x.add(0, 1, false)));
+        unchanged("add as the 31st", EveryCallTest::full, x -> Check.noState("full", () -> x.add(0, 1, false)));
         Check.terms(7, NOTHING);
-        unchanged("repeat as the 31st", RefusalTest::full, x -> Check.noState("full", () -> x.repeat(1, false)));
+        unchanged("repeat as the 31st", EveryCallTest::full, x -> Check.noState("full", () -> x.repeat(1, false)));
         Check.terms(8, NOTHING);
-        unchanged("word as the 31st", RefusalTest::full, x -> Check.noState("full", () -> x.word(0)));
+        unchanged("word as the 31st", EveryCallTest::full, x -> Check.noState("full", () -> x.word(0)));
         Check.terms(9, NOTHING);
-        unchanged("call as the 31st", RefusalTest::full, x -> Check.noState("full", () -> x.call(0)));
+        unchanged("call as the 31st", EveryCallTest::full, x -> Check.noState("full", () -> x.call(0)));
         Check.terms(10, NOTHING);
-        unchanged("end as the 31st", RefusalTest::full, x -> Check.noState("full", x::end));
+        unchanged("end as the 31st", EveryCallTest::full, x -> Check.noState("full", x::end));
     }
 
     private static void writeAfterRefusals() {
         Check.terms(12, NOTHING);
-        unchanged("write", RefusalTest::inUse, x -> {
+        unchanged("write", EveryCallTest::inUse, x -> {
             Check.noIndex("pupil 6", () -> x.write(6));
             Check.noState("a block is open", () -> x.write(0));
         });
         unchanged("write of nothing", TurtleChalk::new, x -> Check.noState("empty", () -> x.write(0)));
-        unchanged("write as the 31st", RefusalTest::fullButDraft, x -> {
+        unchanged("write as the 31st", EveryCallTest::fullButDraft, x -> {
             Check.noIndex("pupil -1", () -> x.write(-1));
             Check.noState("30 programs", () -> x.write(0));
         });
@@ -333,14 +422,14 @@ public final class RefusalTest {
 
     private static void exercisesAfterRefusals() {
         Check.terms(13, NOTHING);
-        unchanged("exercise", RefusalTest::inUse, x -> {
+        unchanged("exercise", EveryCallTest::inUse, x -> {
             Check.noIndex("program 3", () -> x.exercise(3, 5, 5));
             Check.noArgument("orders 0", () -> x.exercise(0, 0, 5));
             Check.noArgument("steps 601", () -> x.exercise(0, 5, 601));
         });
-        unchanged("exercise as the 7th", RefusalTest::full, x -> Check.noState("6", () -> x.exercise(0, 5, 5)));
+        unchanged("exercise as the 7th", EveryCallTest::full, x -> Check.noState("6", () -> x.exercise(0, 5, 5)));
         Check.terms(14, NOTHING);
-        unchanged("allow", RefusalTest::inUse, x -> {
+        unchanged("allow", EveryCallTest::inUse, x -> {
             Check.noIndex("exercise 2", () -> x.allow(2, 1, 0));
             Check.noArgument("orders 0, steps 0", () -> x.allow(0, 0, 0));
             Check.noArgument("orders 1, steps -1", () -> x.allow(0, 1, -1));
@@ -351,22 +440,22 @@ public final class RefusalTest {
 
     private static void worksAfterRefusals() {
         Check.terms(15, NOTHING);
-        unchanged("handIn", RefusalTest::inUse, x -> {
+        unchanged("handIn", EveryCallTest::inUse, x -> {
             Check.noIndex("program 3", () -> x.handIn(3, 0));
             Check.noIndex("exercise 2", () -> x.handIn(0, 2));
         });
-        unchanged("handIn as the 25th", RefusalTest::full, x -> Check.noState("24", () -> x.handIn(0, 0)));
+        unchanged("handIn as the 25th", EveryCallTest::full, x -> Check.noState("24", () -> x.handIn(0, 0)));
         Check.terms(16, NOTHING);
-        unchanged("clear", RefusalTest::inUse, x -> {
+        unchanged("clear", EveryCallTest::inUse, x -> {
             Check.noIndex("work 4", () -> x.clear(4, true));
             Check.noIndex("work -1", () -> x.clear(-1, false));
         });
-        unchanged("clear behind 24", RefusalTest::full, x -> Check.noIndex("work 24", () -> x.clear(24, true)));
+        unchanged("clear behind 24", EveryCallTest::full, x -> Check.noIndex("work 24", () -> x.clear(24, true)));
     }
 
     private static void wallAfterRefusals() {
         Check.terms(17, NOTHING);
-        unchanged("setWall", RefusalTest::inUse, x -> {
+        unchanged("setWall", EveryCallTest::inUse, x -> {
             Check.noArgument("width 0", () -> x.setWall(0, 5));
             Check.noArgument("height 0", () -> x.setWall(5, 0));
             Check.noArgument("width 41", () -> x.setWall(41, 5));
@@ -380,13 +469,13 @@ public final class RefusalTest {
                 int one = promise;
                 Check.terms(promise, NOTHING);
                 for (int bad : new int[] {-1, 40, FAR, LOW}) {
-                    unchanged("a number " + bad, RefusalTest::inUse,
+                    unchanged("a number " + bad, EveryCallTest::inUse,
                             x -> Check.noIndex("" + bad, () -> askWith(x, one, bad)));
                 }
             }
         }
         Check.terms(23, NOTHING);
-        unchanged("steps", RefusalTest::inUse, x -> Check.noArgument("601", () -> x.strokesBySteps(0, 601)));
+        unchanged("steps", EveryCallTest::inUse, x -> Check.noArgument("601", () -> x.strokesBySteps(0, 601)));
     }
 
     /** The question of the promise, with that number wherever it takes one. */
@@ -413,7 +502,7 @@ public final class RefusalTest {
 
     private static void questions() {
         Check.terms(23, "drawings, judgements, copies and places on the wall are asked, which changes nothing");
-        State[] states = {RefusalTest::inUse, RefusalTest::full, TurtleChalk::new};
+        State[] states = {EveryCallTest::inUse, EveryCallTest::full, TurtleChalk::new};
         for (State state : states) {
             TurtleChalk x = state.made();
             ask(x, new ArrayList<>());
