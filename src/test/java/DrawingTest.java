@@ -104,7 +104,7 @@ public final class DrawingTest {
 
     /** No stroke has its lesser point there, but the points are on the ground. */
     private static void greatest() {
-        Check.sentence(24, "Tells whether a stroke is in the drawing of a program.");
+        Check.sentence(24, "Returns whether it is.");
         TurtleChalk x = new TurtleChalk();
         Script.write(x, 0, AROUND);
         Check.due("up from (15, 15)", x.isDrawn(0, 15, 15, true), false);

@@ -24,6 +24,7 @@ public final class ExerciseTest {
         meetsSteps();
         meetsDrawing();
         meetsFaults();
+        meetsAnswers();
         meetsNow();
         copies();
         copyOfTheLowest();
@@ -343,6 +344,20 @@ public final class ExerciseTest {
         Check.due("the faulty one itself does not meet", x.meets(x.handIn(0, 0)), false);
         Check.due("no strokes are wanted", x.meets(x.handIn(3, 1)), true);
         Check.due("a fault without strokes", x.meets(x.handIn(2, 1)), false);
+    }
+
+    private static void meetsAnswers() {
+        Check.sentence(29, "Returns whether it does.");
+        TurtleChalk x = withExercise("f1", 30, 600);
+        Script.write(x, 1, "f2");
+        x.handIn(0, 0);
+        x.handIn(1, 0);
+        x.handIn(Script.write(x, 2, "f1"), 0);
+        Check.due("the first", x.meets(0), true);
+        Check.due("another drawing", x.meets(1), false);
+        Check.due("a copy in doubt", x.meets(2), true);
+        x.setWall(1, 1);
+        Check.due("one that does not hang", x.meets(0), true);
     }
 
     private static void meetsNow() {

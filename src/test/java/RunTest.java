@@ -49,7 +49,7 @@ public final class RunTest {
         Check.due(text + ": strokes by 600", x.strokesBySteps(program, 600), strokes);
     }
 
-    /** Turns that count so many steps, 2 to 600, and leave the turtle as it was: at most 8 orders. */
+    /** Turns that count so many steps, 1 to 600, and leave the turtle as it was: at most 13 orders. */
     private static String wait(int steps) {
         int rounds = (steps - 1) / 6;
         int rest = steps - 1 - 6 * rounds;
@@ -490,11 +490,15 @@ public final class RunTest {
     }
 
     private static void strokesBySteps() {
-        Check.sentence(23, "Returns how many strokes there are when a run has counted some steps, by doing its orders one by one.");
+        Check.sentence(23, "Returns how many strokes there are when a run has counted some steps, "
+                + "by doing its orders one by one.");
         by("r4 f2 t1 e", 0, 0, 0, 1, 2, 2, 2, 3, 4, 4, 4, 5, 6, 6, 6, 7, 8, 8, 8);
         by("w0 f2 pu f1 pd e t1 c0 t2 f3", 0, 0, 0, 0, 1, 2, 2, 2, 2, 2, 2, 2, 3, 3, 3);
         by("f2 t2 f3", 0, 0, 1, 2, 2, 2, 2, 2, 3, 3);
         by("f3 c0", 0, 0, 1, 2, 3, 3, 3);
+        Check.sentence(23, "Returns how many.");
+        by("t0", 0, 0);
+        by("f7 t2 f15", 0, 0, 1, 2, 3, 4, 5, 6, 7, 7, 7, 7, 7, 7, 7, 7, 7, 7, 8, 9, 10, 11, 12, 13, 14, 15, 15);
         Check.sentence(23, "`steps`: 0 to 600: how many, or all, if there are fewer");
         by("w0 f1 e", 0, 0);
         by("f1", 0, 0, 1, 1, 1);

@@ -317,7 +317,8 @@ public final class WallTest {
     // ---- promises 31 to 33
 
     private static void hangsAnswers() {
-        Check.sentence(31, "Returns 100 times the least x of its rectangle, and the least y, together; NONE if it does not hang.");
+        Check.sentence(31, "Returns 100 times the least x of its rectangle, and the least y, together; "
+                + "NONE if it does not hang.");
         TurtleChalk x = new TurtleChalk();
         hang(x, 0, "t1");
         for (int i = 1; i < 24; i++) {
@@ -405,7 +406,7 @@ public final class WallTest {
         for (int pupil = 0; pupil < due.length; pupil++) {
             Check.due("hung(" + pupil + ")", x.hung(pupil), due[pupil]);
         }
-        Check.sentence(33, "Returns how many works of a pupil hang.");
+        Check.sentence(33, "Returns how many.");
         x.setWall(40, 3);
         Check.due("hung(5) on a low wall", x.hung(5), 1);
         x.handIn(0, 0);
@@ -413,6 +414,13 @@ public final class WallTest {
         x.setWall(1, 1);
         Check.due("none has a place", x.hung(0), 0);
         Check.due("of a new object", new TurtleChalk().hung(0), 0);
+        TurtleChalk full = new TurtleChalk();
+        hang(full, 4, "t1");
+        for (int i = 1; i < 24; i++) {
+            full.handIn(0, 0);
+        }
+        Check.due("all 24", full.hung(4), 24);
+        Check.due("none of the other pupil", full.hung(3), 0);
     }
 
     private static void pupilsRefused() {
